@@ -250,8 +250,9 @@ public final class FoldedInHalf {
     /** A shelf whose strip is gone must not show a later one of that number. */
     private void clearShelvesOfNobody() {
         for (int s = 0; s < MOST_SHELVES; s++) {
-            if (shelves[s].shown >= stripCount) {
-                shelves[s].holdStrip(NONE);
+            Shelf shelf = shelfAt(s);
+            if (shelf != null && shelf.shown >= stripCount) {
+                shelf.holdStrip(NONE);
             }
         }
     }
@@ -1483,14 +1484,10 @@ public final class FoldedInHalf {
         private long tellWord(int mostLetters) {
             long word = 0;
             int letters = 0;
-            while (fault == NONE && letters <= mostLetters && (stands('l') || stands('r'))) {
-                if (letters == mostLetters) {
-                    fault = at;
-                } else {
-                    word |= (stands('l') ? 1L : 0L) << letters;
-                    at++;
-                }
+            while (fault == NONE && letters < mostLetters && (stands('l') || stands('r'))) {
+                word |= (stands('l') ? 1L : 0L) << letters;
                 letters++;
+                at++;
             }
             if (fault == NONE && letters == 0) {
                 fault = at;

@@ -178,7 +178,7 @@ public final class RowsTest {
         Check.strip(x, 0, 5, "llr");
         Check.strip(x, 1, 7, "rrrr");
         Check.strip(x, 2, 0, "lllllll");
-        Check.strip(x, 3, 5000, "llllllllllll");
+        Check.strip(x, 3, 6345, "llllllllllll");
         Check.strip(x, 4, 9, "lll");
         Check.strip(x, 5, 0, "lr");
         Check.strip(x, 6, 0, "r");
@@ -191,7 +191,7 @@ public final class RowsTest {
         }
         Check.due("says SAME", x.says(1, 1), 1);
         Check.due("says THIRD", x.says(2, 2), 186);
-        Check.due("says CUT", x.says(3, 3), 905);
+        Check.due("says CUT: 6345 modulo 4095 modulo 1000", x.says(3, 3), 250);
         Check.due("says BACK", x.says(4, 4), 2);
         Check.due("says BACK, taken for a CUT", x.says(4, 3), 2);
         Check.due("says GLASS", x.says(5, 5), 0);

@@ -281,12 +281,16 @@ public final class StripsTest {
         Check.due("drop of none", x.drop(), -6);
         Check.strip(x, 0, 0, "l");
         Check.strip(x, 1, 0, "ll");
-        x.show(0, 0);
+        x.show(0, 1);
         x.show(1, 1);
         x.show(2, 1);
+        x.show(3, 0);
+        x.show(6, 1);
         Check.due("drop", x.drop(), 1);
-        Check.due("a shelf of another", x.holds(0), 0);
+        Check.due("a shelf of another", x.holds(3), 0);
+        Check.due("a shelf of it", x.holds(0), -1);
         Check.due("a shelf of it", x.holds(1), -1);
+        Check.due("a shelf of it", x.holds(6), -1);
         Check.due("a shelf of it", x.holds(2), -1);
         Check.due("a row stays", x.holds(7), 102);
         Check.due("it is gone", x.creases(1), -1);

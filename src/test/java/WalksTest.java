@@ -98,6 +98,11 @@ public final class WalksTest {
         // The strip of l alone: (0,0) (1,0) (1,1) (0,1); behind 3 sides 2 apart.
         Check.due("near of two", x.near(0, 3, 3, 3, 0, 0), 1);
         Check.due("near of two, first", x.near(0, 3, 3, 3, 0, 1), 3);
+        // Behind 4 sides one is at (2, 0), the other at (0, 2).
+        Check.due("near from below", x.near(0, 3, 4, 2, -2, 0), 0);
+        Check.due("near from below, first", x.near(0, 3, 4, 2, -2, 1), 4);
+        Check.due("near from above", x.near(0, 3, 4, 2, 2, 0), 4);
+        Check.due("near from above, first", x.near(0, 3, 4, 2, 2, 1), 3);
         Check.due("near the other way about", x.near(3, 0, 3, -3, 0, 0), 1);
         Check.due("near 4000", x.near(1, 3, 4000, 0, 0, 1), 0);
         Check.due("near no strip", x.near(4, 0, 9, 0, 0, 2), -1);
@@ -126,6 +131,7 @@ public final class WalksTest {
         Check.due("four of 1", x.four(0, 1), 0);
         // All four sides about (0, 0) and the eight round them.
         Check.due("four of 2", x.four(0, 2), 0);
+        Check.due("four of 3", x.four(0, 3), 1);
         Check.due("four of 1000", x.four(0, 1000), 11);
         Check.due("four of a strip so short", x.four(2, 4), 0);
         int ahead = 0;
@@ -135,6 +141,7 @@ public final class WalksTest {
             ahead = reach;
         }
         // A LEFT runs over its first side again, and so do the four.
+        Check.due("four of a LEFT, a side farther out run over again", x.four(1, 13), 1);
         int early = x.four(1, 16);
         Check.due("four of a LEFT that runs over all again", x.four(1, 32), 0);
         Check.holds("four of a LEFT", early >= 0 && early <= 2);

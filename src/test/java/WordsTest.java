@@ -114,6 +114,9 @@ public final class WordsTest {
         Check.due("judge of another kind", x.judge(1, 0, 5), 4);
         x.set(0, 3, 5);
         Check.due("judge: not seen", x.judge(1, 0, 5), -1);
+        x.set(0, 6, 1);
+        Check.due("judge: the last", x.judge(0, 0, 7), 7);
+        Check.due("judge: not the one behind it", x.judge(0, 0, 6), -1);
         x.set(0, 0, 0);
         Check.due("judge: the first", x.judge(0, 0, 7), 1);
         x.row(1, 2, 64);
