@@ -759,6 +759,15 @@ public final class FoldedInHalf {
         return first == NONE ? refuse(BEYOND) : first;
     }
 
+    /** Which of n told creases are told so, as bits, the last one lowest. */
+    private static long toldBits(Shelf told, int n, int crease) {
+        long bits = 0;
+        for (int i = 0; i < n; i++) {
+            bits = bits << 1 | (told.number(i) == crease ? 1 : 0);
+        }
+        return bits;
+    }
+
     public int piece(int strip, int s, int n, int what) {
         Strip one = stripAt(strip);
         Shelf shelf = shelfAt(s);
@@ -776,21 +785,15 @@ public final class FoldedInHalf {
             return refuse(trouble);
         }
         // The latest creases are bits of a window, the newest one lowest, as the told ones are.
-        long seen = 0;
-        long want = 0;
-        for (int i = 0; i < n; i++) {
-            int told = shelf.number(i);
-            boolean isSeen = told == 0 || told == 1;
-            seen = seen << 1 | (isSeen ? 1 : 0);
-            want = want << 1 | (told == 1 ? 1 : 0);
-        }
+        long ones = toldBits(shelf, n, 1);
+        long seen = toldBits(shelf, n, 0) | ones;
         long last = Math.min(MOST_WALKED, one.corners());
         long window = 0;
         int count = 0;
         int first = NONE;
         for (int crease = 1; crease <= last; crease++) {
             window = window << 1 | one.creaseAt(crease);
-            if (crease >= n && (window & seen) == want) {
+            if (crease >= n && (window & seen) == ones) {
                 first = count == 0 ? crease - n + 1 : first;
                 count++;
             }
@@ -963,7 +966,7 @@ public final class FoldedInHalf {
         }
 
         private int number(int i) {
-            return (int) at(i);
+            return i >= 0 && i < length && i < MOST_ELEMENTS ? (int) cells[i] : 0;
         }
 
         private boolean hasPiece(int i, int n) {
