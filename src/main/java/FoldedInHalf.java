@@ -93,6 +93,18 @@ public final class FoldedInHalf {
         return strip >= 0 && strip < stripCount && strip < MOST_STRIPS ? strips[strip] : null;
     }
 
+    private void putStrip(int number, Strip strip) {
+        if (number >= 0 && number < MOST_STRIPS) {
+            strips[number] = strip;
+        }
+    }
+
+    private static void copyStrips(Strip[] from, Strip[] to) {
+        for (int i = 0; i < from.length && i < to.length; i++) {
+            to[i] = from[i];
+        }
+    }
+
     private static int rowTrouble(Shelf shelf) {
         if (shelf == null) {
             return NOBODY;
@@ -278,7 +290,7 @@ public final class FoldedInHalf {
         for (int level = 0; level < n; level++) {
             word |= (long) (shelf.number(level) & 1) << level;
         }
-        strips[stripCount] = make(kind, stripCount, a, n, word);
+        putStrip(stripCount, make(kind, stripCount, a, n, word));
         stripCount++;
         return stripCount - 1;
     }
@@ -306,7 +318,7 @@ public final class FoldedInHalf {
         if (!one.hasLevel(level)) {
             return refuse(BEYOND);
         }
-        strips[strip] = one.turned(level);
+        putStrip(strip, make(one.kind(), strip, one.a, one.foldCount, one.turnedWord(level)));
         return one.letter(level);
     }
 
@@ -316,13 +328,13 @@ public final class FoldedInHalf {
         if (trouble != 0 || shelf == null) {
             return refuse(trouble);
         }
-        System.arraycopy(strips, 0, reader.draft, 0, MOST_STRIPS);
+        copyStrips(strips, reader.draft);
         reader.count = stripCount;
         reader.tell(shelf);
         if (reader.fault != NONE) {
             return refuse(WRONG);
         }
-        System.arraycopy(reader.draft, 0, strips, 0, MOST_STRIPS);
+        copyStrips(reader.draft, strips);
         stripCount = reader.count;
         return reader.items;
     }
@@ -336,13 +348,13 @@ public final class FoldedInHalf {
             return refuse(WRONG);
         }
         stripCount--;
-        strips[stripCount] = null;
+        putStrip(stripCount, null);
         clearShelvesOfNobody();
         return stripCount;
     }
 
     public int image() {
-        System.arraycopy(strips, 0, kept, 0, MOST_STRIPS);
+        copyStrips(strips, kept);
         keptCount = stripCount;
         return stripCount;
     }
@@ -351,7 +363,7 @@ public final class FoldedInHalf {
         if (keptCount == NONE) {
             return refuse(WRONG);
         }
-        System.arraycopy(kept, 0, strips, 0, MOST_STRIPS);
+        copyStrips(kept, strips);
         stripCount = keptCount;
         clearShelvesOfNobody();
         return stripCount;
@@ -404,7 +416,7 @@ public final class FoldedInHalf {
     /** Counts (u, v) once more: how often it was counted ahead. */
     private int tally(int u, int v) {
         int key = u + KEY_SHIFT << KEY_BITS | v + KEY_SHIFT;
-        int slot = key * SPREAD >>> 32 - SLOT_BITS;
+        int slot = key * SPREAD >>> 32 - SLOT_BITS & SLOTS - 1;
         for (int probe = 0; probe < SLOTS; probe++) {
             if (times[slot] == 0) {
                 keys[slot] = key;
@@ -428,7 +440,7 @@ public final class FoldedInHalf {
         if (trouble != 0 || one == null) {
             return refuse(trouble);
         }
-        Walk walk = new Walk(one);
+        Walk walk = new Walk(one, one.corners());
         int passes = 0;
         for (int i = 0; i <= n; i++) {
             if (walk.isAt(x, y)) {
@@ -446,7 +458,7 @@ public final class FoldedInHalf {
             return refuse(trouble);
         }
         forget();
-        Walk walk = new Walk(one);
+        Walk walk = new Walk(one, one.corners());
         int most = 0;
         for (int i = 0; i <= n; i++) {
             most = Math.max(most, tallyPlace(walk) + 1);
@@ -462,7 +474,7 @@ public final class FoldedInHalf {
             return refuse(trouble);
         }
         forget();
-        Walk walk = new Walk(one);
+        Walk walk = new Walk(one, one.corners());
         int again = 0;
         for (int i = 0; i < n; i++) {
             if (tally(walk.middleX(), walk.middleY()) > 0) {
@@ -480,7 +492,7 @@ public final class FoldedInHalf {
             return refuse(trouble);
         }
         forget();
-        Walk walk = new Walk(one);
+        Walk walk = new Walk(one, one.corners());
         int unlike = 0;
         for (int i = 0; i <= n; i++) {
             if (tallyPlace(walk) == 0) {
@@ -500,7 +512,7 @@ public final class FoldedInHalf {
             return refuseTens(BEYOND);
         }
         long last = Math.min(MOST_WALKED, one.sides());
-        Walk walk = new Walk(one);
+        Walk walk = new Walk(one, one.corners());
         int ahead = 0;
         for (int time = 0; time <= last; time++) {
             if (walk.isAt(x, y)) {
@@ -526,15 +538,15 @@ public final class FoldedInHalf {
         if (n < 0 || n > MOST_WALKED || isFarApart(dx) || isFarApart(dy)) {
             return refuse(WRONG);
         }
-        Walk first = new Walk(one);
-        Walk second = new Walk(two);
-        long nearest = Long.MAX_VALUE;
+        Walk first = new Walk(one, one.corners());
+        Walk second = new Walk(two, two.corners());
+        long nearest = 0;
         int when = 0;
         for (int time = 0; time <= n; time++) {
             long apartX = second.x + dx - first.x;
             long apartY = second.y + dy - first.y;
             long square = apartX * apartX + apartY * apartY;
-            if (square < nearest) {
+            if (time == 0 || square < nearest) {
                 nearest = square;
                 when = time;
             }
@@ -556,7 +568,7 @@ public final class FoldedInHalf {
         }
         forget();
         Arrays.fill(rings, 0);
-        Walk walk = new Walk(one);
+        Walk walk = new Walk(one, one.corners());
         int limit = MOST_REACH;
         for (int i = 0; i < n; i++) {
             limit = tallyFour(walk.middleX(), walk.middleY(), limit);
@@ -1009,13 +1021,13 @@ public final class FoldedInHalf {
             return letter(level);
         }
 
-        Strip turned(int level) {
-            return make(kind(), number, a, foldCount, word ^ 1L << level);
+        long turnedWord(int level) {
+            return word ^ 1L << level;
         }
 
-        Strip lessened() {
-            long left = word & (1L << foldCount - 1) - 1;
-            return make(kind(), number, a, foldCount - 1, left);
+        /** The word without its last level. */
+        long lessWord() {
+            return word & (1L << foldCount - 1) - 1;
         }
 
         long wholeSides() {
@@ -1055,7 +1067,7 @@ public final class FoldedInHalf {
          * two of the strip's: so place n comes from place n / 2 of that one, and so on.
          */
         final Walk wholeWalkTo(long n) {
-            Walk walk = new Walk(this);
+            Walk walk = new Walk(this, corners());
             walk.x = n >> foldCount;
             for (int level = foldCount - 1; level >= 0; level--) {
                 int side = bend(level) == 1 ? 1 : -1;
@@ -1145,7 +1157,7 @@ public final class FoldedInHalf {
 
         /** As for halves, but three sides make one: on, to the side, on. */
         Walk walkTo(long n) {
-            Walk walk = new Walk(this);
+            Walk walk = new Walk(this, corners());
             long power = wholeSides();
             long rest = n;
             if (rest >= power) {
@@ -1295,7 +1307,7 @@ public final class FoldedInHalf {
 
         /** 8 sides turn it round by half, 16 bring it back to where it was. */
         Walk walkTo(long n) {
-            Walk walk = new Walk(this);
+            Walk walk = new Walk(this, corners());
             int left = (int) (n & 15);
             for (int i = 0; i < left; i++) {
                 walk.step();
@@ -1323,9 +1335,9 @@ public final class FoldedInHalf {
         private long y = 0;
         private int way = 0;
 
-        private Walk(Strip strip) {
+        private Walk(Strip strip, long corners) {
             this.strip = strip;
-            this.corners = strip.corners();
+            this.corners = corners;
         }
 
         private void move() {
@@ -1465,6 +1477,12 @@ public final class FoldedInHalf {
             return there ? draft[number] : null;
         }
 
+        private void putDraft(int number, Strip strip) {
+            if (number >= 0 && number < MOST_STRIPS) {
+                draft[number] = strip;
+            }
+        }
+
         private void tellStrip() {
             int wordAt = at;
             expectAll("strip");
@@ -1479,7 +1497,7 @@ public final class FoldedInHalf {
             int lettersAt = at;
             long word = tellWord(mostFolds(kind));
             if (fault == NONE && count < MOST_STRIPS) {
-                draft[count] = make(kind, count, a, at - lettersAt, word);
+                putDraft(count, make(kind, count, a, at - lettersAt, word));
                 count++;
             }
         }
@@ -1506,7 +1524,7 @@ public final class FoldedInHalf {
             Strip strip = draftAt(number);
             int level = tellBelow(strip == null ? 0 : strip.foldCount);
             if (fault == NONE && strip != null) {
-                draft[number] = strip.turned(level);
+                putDraft(number, make(strip.kind(), number, strip.a, strip.foldCount, strip.turnedWord(level)));
             }
         }
 
@@ -1518,7 +1536,7 @@ public final class FoldedInHalf {
             if (strip != null && strip.foldCount < 2) {
                 fault = numberAt;
             } else if (strip != null) {
-                draft[number] = strip.lessened();
+                putDraft(number, make(strip.kind(), number, strip.a, strip.foldCount - 1, strip.lessWord()));
             }
         }
     }
