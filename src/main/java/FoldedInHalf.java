@@ -982,7 +982,7 @@ public final class FoldedInHalf {
         }
 
         private boolean hasPiece(int i, int n) {
-            return i >= 0 && n >= 0 && i <= length - n;
+            return i >= 0 && n >= 0 && length <= MOST_ELEMENTS && i <= length - n;
         }
     }
 

@@ -30,6 +30,11 @@ final class PromisesOfStrips extends Edge {
         is(x.stripOf(1, 0), 3);
         is(x.stripOf(1, 1), 12);
         is(x.stripOf(1, 2), 2);
+        // What stands behind the first n is no letter of it.
+        int ones = x.status(2);
+        is(x.strip(0, 0, 0, 3), 2);
+        is(x.status(2), ones + 1);
+        x.drop();
         is(x.strip(0, 0, 0, 40), 2);
         // Its WORD is kept, whatever becomes of the ROW.
         x.set(0, 0, 0);

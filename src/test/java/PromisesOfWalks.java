@@ -1,3 +1,8 @@
+import java.util.HashMap;
+import java.util.HashSet;
+import java.util.List;
+import java.util.Map;
+import java.util.Set;
 import java.util.function.IntSupplier;
 
 /** Promises 18 to 24, clause by clause: what is walked. */
@@ -79,7 +84,32 @@ final class PromisesOfWalks extends Edge {
         is(x.most(0, 6), 1);
         is(x.most(0, 7), 2);
         is(x.most(1, 4000), 500);
+        longOnes();
+        for (int strip = 0; strip < 7; strip++) {
+            int most = 0;
+            for (int times : timesAtPlaces(strip, 4000).values()) {
+                most = Math.max(most, times);
+            }
+            is(x.most(strip, 4000), most);
+        }
         return 1;
+    }
+
+    /** A STRIP of each KIND with more than 4000 SIDES. */
+    private static void longOnes() {
+        x = new FoldedInHalf();
+        for (int kind = 0; kind < 7; kind++) {
+            strip(kind, 123457, kind == 2 ? "lrrlrlllr" : "lrllrlrrlllrlrlrrlrl");
+        }
+    }
+
+    /** How often each PLACE is met, told one by one. */
+    private static Map<List<Long>, Integer> timesAtPlaces(int strip, int n) {
+        Map<List<Long>, Integer> times = new HashMap<>();
+        for (int i = 0; i <= n; i++) {
+            times.merge(List.of(x.place(strip, i, 0), x.place(strip, i, 1)), 1, Integer::sum);
+        }
+        return times;
     }
 
     private static int twice() {
@@ -87,6 +117,15 @@ final class PromisesOfWalks extends Edge {
         is(x.twice(0, 16), 0);
         is(x.twice(0, 17), 1);
         is(x.twice(0, 4000), 3984);
+        longOnes();
+        for (int strip = 0; strip < 7; strip++) {
+            Set<List<Long>> middles = new HashSet<>();
+            for (int i = 1; i <= 4000; i++) {
+                middles.add(List.of(x.place(strip, i - 1, 0) + x.place(strip, i, 0),
+                    x.place(strip, i - 1, 1) + x.place(strip, i, 1)));
+            }
+            is(x.twice(strip, 4000), 4000 - middles.size());
+        }
         return 1;
     }
 
@@ -96,6 +135,11 @@ final class PromisesOfWalks extends Edge {
         is(x.cover(0, 0), 1);
         is(x.cover(0, 8), 8);
         is(x.cover(1, 3), 4);
+        longOnes();
+        for (int strip = 0; strip < 7; strip++) {
+            is(x.cover(strip, 4000), timesAtPlaces(strip, 4000).size());
+            is(x.cover(strip, 2000), timesAtPlaces(strip, 2000).size());
+        }
         return 1;
     }
 
